@@ -218,6 +218,28 @@ public final class PromisesTest {
         CHECK.due("40 different colours", x.run(1, 39, 0), 39);
         CHECK.due("the first pair of all equal ones", x.count(0), 2);
         CHECK.due("its mean", x.colour(0, 0), 3);
+        // 5 goes, 205 comes: then 10 and 15 are the first pair, numbers 1 and 2 (as boxes it is another).
+        x.put(1, 0, 205, 205, 205, 205);
+        x.run(1, 39, 0);
+        CHECK.due("40 different colours, by their order", x.colour(0, 0), 13);
+    }
+
+    private static void runJoiningCosts() {
+        CHECK.begin("promise 5, run, what joining costs");
+        ColourLessen x = reds(0, 10, 19, 29);
+        x.run(1, 2, 0);
+        duePalette("by the means of what is joined", x, 19, 0);
+        // 0 and 10 cost 9 * 1 * 100 / 10 = 90; 100 and 115 cost 1 * 1 * 225 / 2 = 112.
+        x = reds(0, 0, 0, 0, 0, 0, 0, 0, 0, 10, 100, 115);
+        x.run(1, 3, 0);
+        duePalette("divided by both", x, 1, 100, 115);
+        // Black and white cost 250 * 250 * 260100 / 500, whose product is beyond an int.
+        x = new ColourLessen(24, 24);
+        x.paint(0, 0, 250, -1, 0);
+        x.paint(0, 20, 76, 0x7F7F7F7F, 0);
+        CHECK.due("three", x.told(2), 3);
+        x.run(1, 2, 0);
+        duePalette("more than an int holds", x, 30, 255);
     }
 
     private static void runGiven() {
@@ -365,6 +387,7 @@ public final class PromisesTest {
         CHECK.due("by green", y.nearest(50, 51, 50, 50), 1);
         CHECK.due("by blue", y.nearest(50, 50, 51, 50), 2);
         CHECK.due("by alpha", y.nearest(50, 50, 50, 51), 3);
+        CHECK.due("all as far: the first", y.nearest(50, 50, 50, 50), 0);
         CHECK.due("by squares", y.nearest(99, 100, 0, 0), 1);
     }
 
@@ -567,6 +590,7 @@ public final class PromisesTest {
         runWrong();
         runBoxes();
         runJoining();
+        runJoiningCosts();
         runGiven();
         runOrder();
         given();
