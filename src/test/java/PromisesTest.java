@@ -4,36 +4,6 @@ public final class PromisesTest {
     private static final int MAX = Integer.MAX_VALUE;
     private static final Check CHECK = new Check();
 
-    /** A picture of one row whose samples have these reds, and nothing else. */
-    private static ColourLessen reds(int... levels) {
-        ColourLessen x = new ColourLessen(levels.length, 1);
-        for (int i = 0; i < levels.length; i++) {
-            x.put(i, 0, levels[i], 0, 0, 0);
-        }
-        return x;
-    }
-
-    private static void duePalette(String what, ColourLessen x, int... levels) {
-        CHECK.due(what + ": told(3)", x.told(3), levels.length);
-        for (int k = 0; k < levels.length && k < x.told(3); k++) {
-            CHECK.due(what + ": red of colour " + k, x.colour(k, 0), levels[k]);
-        }
-    }
-
-    private static void dueIndexes(String what, ColourLessen x, int... places) {
-        for (int i = 0; i < places.length; i++) {
-            int column = i % x.told(0);
-            int row = i / x.told(0);
-            CHECK.due(what + ": index(" + column + ", " + row + ")", x.index(column, row), places[i]);
-        }
-    }
-
-    private static void dueCounts(String what, ColourLessen x, int... many) {
-        for (int k = 0; k < many.length; k++) {
-            CHECK.due(what + ": count(" + k + ")", x.count(k), many[k]);
-        }
-    }
-
     private static void newObject() {
         CHECK.begin("promise 1, a new object");
         int[][] sizes = {{3, 2, 3, 2}, {1, 24, 1, 24}, {24, 1, 24, 1}, {0, 25, 1, 24}, {25, 0, 24, 1},
@@ -136,14 +106,14 @@ public final class PromisesTest {
 
     private static void runWrong() {
         CHECK.begin("promise 5, run, wrong inputs");
-        ColourLessen x = reds(10, 20);
+        ColourLessen x = Pictures.reds(10, 20);
         x.run(0, 2, 1);
         int[][] wrong = {{-1, 1, 0}, {3, 1, 0}, {0, 0, 0}, {0, 65, 0}, {0, 1, -1}, {0, 1, 21}, {2, 1, 0},
             {MIN, MIN, MIN}, {MAX, MAX, MAX}, {1, -1, 0}, {1, 1, MIN}};
         for (int[] w : wrong) {
             CHECK.dueArgument("run(" + w[0] + ", " + w[1] + ", " + w[2] + ")", () -> x.run(w[0], w[1], w[2]));
         }
-        duePalette("the palette stays behind what throws", x, 10, 20);
+        CHECK.duePalette("the palette stays behind what throws", x, 10, 20);
         CHECK.due("and its rounds", x.sum(1), 0);
         x.given(5, 30, 0, 0, 0);
         CHECK.due("something was given", x.run(2, 1, 0), 1);
@@ -155,56 +125,56 @@ public final class PromisesTest {
 
     private static void runBoxes() {
         CHECK.begin("promise 5, run, boxes");
-        ColourLessen x = reds(255, 10, 200, 0);
+        ColourLessen x = Pictures.reds(255, 10, 200, 0);
         CHECK.due("answer", x.run(0, 2, 0), 2);
-        duePalette("halves", x, 5, 228);
+        CHECK.duePalette("halves", x, 5, 228);
         x.run(0, 3, 0);
-        duePalette("the greatest spread is cut", x, 5, 200, 255);
+        CHECK.duePalette("the greatest spread is cut", x, 5, 200, 255);
         x.run(0, 4, 0);
-        duePalette("not more than are wanted", x, 0, 10, 200, 255);
-        x = reds(0, 100, 0, 10, 110);
+        CHECK.duePalette("not more than are wanted", x, 0, 10, 200, 255);
+        x = Pictures.reds(0, 100, 0, 10, 110);
         x.run(0, 3, 0);
-        duePalette("equal spreads: the most samples", x, 0, 105, 10);
-        x = reds(0, 10, 100, 110);
+        CHECK.duePalette("equal spreads: the most samples", x, 0, 105, 10);
+        x = Pictures.reds(0, 10, 100, 110);
         x.run(0, 3, 0);
-        duePalette("equal samples too: the least box", x, 105, 0, 10);
-        x = reds(9, 9, 9, 9, 9, 9, 0, 5);
+        CHECK.duePalette("equal samples too: the least box", x, 105, 0, 10);
+        x = Pictures.reds(9, 9, 9, 9, 9, 9, 0, 5);
         x.run(0, 2, 0);
-        duePalette("at least one goes", x, 9, 3);
-        x = reds(0, 0, 0, 0, 0, 0, 5, 9);
+        CHECK.duePalette("at least one goes", x, 9, 3);
+        x = Pictures.reds(0, 0, 0, 0, 0, 0, 5, 9);
         x.run(0, 2, 0);
-        duePalette("at least one stays", x, 0, 7);
+        CHECK.duePalette("at least one stays", x, 0, 7);
         x = new ColourLessen(3, 1);
         x.put(0, 0, 0, 100, 0, 0);
         x.put(1, 0, 100, 0, 0, 0);
         x.put(2, 0, 60, 90, 0, 0);
         x.run(0, 2, 0);
-        duePalette("equal channels: the first", x, 30, 100);
+        CHECK.duePalette("equal channels: the first", x, 30, 100);
         CHECK.due("green", x.colour(0, 1), 95);
         x.put(0, 0, 5, 0, 0, 0);
         x.put(1, 0, 3, 0, 0, 100);
         x.put(2, 0, 9, 0, 0, 100);
         x.run(0, 2, 0);
-        duePalette("equal in the channel: as colours are in order", x, 9, 4);
+        CHECK.duePalette("equal in the channel: as colours are in order", x, 9, 4);
         CHECK.due("alpha", x.colour(1, 3), 50);
     }
 
     private static void runJoining() {
         CHECK.begin("promise 5, run, joining");
-        ColourLessen x = reds(12, 1, 10, 0);
+        ColourLessen x = Pictures.reds(12, 1, 10, 0);
         CHECK.due("answer", x.run(1, 2, 0), 2);
-        duePalette("what is alike", x, 1, 11);
+        CHECK.duePalette("what is alike", x, 1, 11);
         x.run(1, 3, 0);
-        duePalette("one pair", x, 1, 10, 12);
+        CHECK.duePalette("one pair", x, 1, 10, 12);
         x.run(1, 4, 0);
-        duePalette("not more than are wanted", x, 0, 1, 10, 12);
-        x = reds(0, 1, 2);
+        CHECK.duePalette("not more than are wanted", x, 0, 1, 10, 12);
+        x = Pictures.reds(0, 1, 2);
         x.run(1, 2, 0);
-        duePalette("equal pairs: the least numbers", x, 1, 2);
+        CHECK.duePalette("equal pairs: the least numbers", x, 1, 2);
         // 0 and 10 cost 3 * 1 * 100 / 4 = 75; 10 and 22 cost 1 * 1 * 144 / 2 = 72, though farther apart.
-        x = reds(0, 0, 0, 10, 22);
+        x = Pictures.reds(0, 0, 0, 10, 22);
         x.run(1, 2, 0);
-        duePalette("by how many samples", x, 0, 16);
+        CHECK.duePalette("by how many samples", x, 0, 16);
         x = new ColourLessen(24, 2);
         x.paint(0, 0, 48, 0, 5);
         CHECK.due("as many as there are", x.run(1, 48, 0), 48);
@@ -226,69 +196,69 @@ public final class PromisesTest {
 
     private static void runJoiningCosts() {
         CHECK.begin("promise 5, run, what joining costs");
-        ColourLessen x = reds(0, 10, 19, 29);
+        ColourLessen x = Pictures.reds(0, 10, 19, 29);
         x.run(1, 2, 0);
-        duePalette("by the means of what is joined", x, 19, 0);
+        CHECK.duePalette("by the means of what is joined", x, 19, 0);
         // 0 and 10 cost 9 * 1 * 100 / 10 = 90; 100 and 115 cost 1 * 1 * 225 / 2 = 112.
-        x = reds(0, 0, 0, 0, 0, 0, 0, 0, 0, 10, 100, 115);
+        x = Pictures.reds(0, 0, 0, 0, 0, 0, 0, 0, 0, 10, 100, 115);
         x.run(1, 3, 0);
-        duePalette("divided by both", x, 1, 100, 115);
+        CHECK.duePalette("divided by both", x, 1, 100, 115);
         // Black and white cost 250 * 250 * 260100 / 500, whose product is beyond an int.
         x = new ColourLessen(24, 24);
         x.paint(0, 0, 250, -1, 0);
         x.paint(0, 20, 76, 0x7F7F7F7F, 0);
         CHECK.due("three", x.told(2), 3);
         x.run(1, 2, 0);
-        duePalette("more than an int holds", x, 30, 255);
+        CHECK.duePalette("more than an int holds", x, 30, 255);
     }
 
     private static void runGiven() {
         CHECK.begin("promise 5, run, given");
-        ColourLessen x = reds(0, 2, 3, 10);
+        ColourLessen x = Pictures.reds(0, 2, 3, 10);
         x.given(63, 200, 0, 0, 0);
         x.given(7, 3, 0, 0, 0);
         x.given(2, 2, 0, 0, 0);
         CHECK.due("at most", x.run(2, 64, 0), 3);
-        duePalette("by their places, not put in order", x, 2, 3, 200);
+        CHECK.duePalette("by their places, not put in order", x, 2, 3, 200);
         x.run(2, 2, 0);
-        duePalette("as many as are wanted", x, 2, 3);
-        CHECK.due("few different colours", reds(5).run(0, 9, 0), 1);
+        CHECK.duePalette("as many as are wanted", x, 2, 3);
+        CHECK.due("few different colours", Pictures.reds(5).run(0, 9, 0), 1);
         x.run(2, 3, 2);
-        duePalette("means; but what has no samples stays", x, 2, 10, 200);
-        dueCounts("three and one", x, 3, 1, 0);
+        CHECK.duePalette("means; but what has no samples stays", x, 2, 10, 200);
+        CHECK.dueCounts("three and one", x, 3, 1, 0);
         x.given(2, 250, 0, 0, 0);
         x.given(3, 250, 0, 0, 0);
         x.run(2, 3, 0);
-        duePalette("equal ones stay", x, 250, 250, 3);
-        dueCounts("the first of equal ones", x, 0, 0, 4);
+        CHECK.duePalette("equal ones stay", x, 250, 250, 3);
+        CHECK.dueCounts("the first of equal ones", x, 0, 0, 4);
     }
 
     private static void runOrder() {
         CHECK.begin("promise 5, run, the order at last");
-        ColourLessen x = reds(0, 6, 9, 9, 9, 9, 9, 9);
+        ColourLessen x = Pictures.reds(0, 6, 9, 9, 9, 9, 9, 9);
         x.run(0, 2, 0);
-        duePalette("the most first", x, 9, 3);
-        dueIndexes("what is between takes the first anew", x, 1, 0, 0, 0, 0, 0, 0, 0);
-        x = reds(200, 200, 100, 100, 7);
+        CHECK.duePalette("the most first", x, 9, 3);
+        CHECK.dueIndexes("what is between takes the first anew", x, 1, 0, 0, 0, 0, 0, 0, 0);
+        x = Pictures.reds(200, 200, 100, 100, 7);
         x.run(0, 3, 0);
-        duePalette("the most first, then in order", x, 100, 200, 7);
+        CHECK.duePalette("the most first, then in order", x, 100, 200, 7);
         x = new ColourLessen(2, 1);
         x.paint(0, 0, 1, 0x80000000, 0);
         x.paint(1, 0, 1, 0x7FFFFFFF, 0);
         x.run(0, 2, 0);
-        duePalette("red 127 is before red 128", x, 127, 128);
+        CHECK.duePalette("red 127 is before red 128", x, 127, 128);
         x = new ColourLessen(4, 1);
         x.put(0, 0, 1, 2, 3, 5);
         x.put(1, 0, 1, 2, 3, 4);
         x.put(2, 0, 1, 2, 2, 9);
         x.put(3, 0, 1, 1, 9, 9);
         x.run(1, 4, 0);
-        dueIndexes("red, green, blue, alpha", x, 3, 2, 1, 0);
+        CHECK.dueIndexes("red, green, blue, alpha", x, 3, 2, 1, 0);
     }
 
     private static void given() {
         CHECK.begin("promise 6, given");
-        ColourLessen x = reds(1, 2, 3);
+        ColourLessen x = Pictures.reds(1, 2, 3);
         x.run(0, 3, 0);
         CHECK.due("the first", x.given(0, 1, 2, 3, 4), 1);
         CHECK.due("the last place", x.given(63, 255, 255, 255, 255), 2);
@@ -296,7 +266,7 @@ public final class PromisesTest {
         CHECK.due("told", x.told(4), 2);
         CHECK.due("none where none was", x.given(5, ColourLessen.NONE, 0, 0, 0), 2);
         CHECK.due("none; the other channels are not looked at", x.given(5, ColourLessen.NONE, -1, 256, MAX), 2);
-        duePalette("the palette stays", x, 1, 2, 3);
+        CHECK.duePalette("the palette stays", x, 1, 2, 3);
         for (int k : new int[] {-1, 64, MIN, MAX}) {
             CHECK.duePlace("no such place", () -> x.given(k, 0, 0, 0, 0));
             CHECK.duePlace("no such place, none", () -> x.given(k, -1, 0, 0, 0));
@@ -312,11 +282,11 @@ public final class PromisesTest {
         }
         CHECK.due("as before", x.told(4), 2);
         x.run(2, 64, 0);
-        duePalette("what was given last", x, 9, 255);
+        CHECK.duePalette("what was given last", x, 9, 255);
         CHECK.due("none", x.given(0, ColourLessen.NONE, 0, 0, 0), 1);
-        duePalette("the palette stays then", x, 9, 255);
+        CHECK.duePalette("the palette stays then", x, 9, 255);
         x.run(2, 64, 0);
-        duePalette("what is left", x, 255);
+        CHECK.duePalette("what is left", x, 255);
     }
 
     private static void colour() {
@@ -348,23 +318,23 @@ public final class PromisesTest {
         x.put(0, 1, 9, 0, 0, 0);
         x.put(2, 1, 5, 0, 0, 0);
         x.run(1, 3, 0);
-        dueIndexes("places", x, 0, 1, 0, 1, 0, 2);
+        CHECK.dueIndexes("places", x, 0, 1, 0, 1, 0, 2);
         int[][] places = {{-1, 0}, {3, 0}, {0, -1}, {0, 2}, {MAX, MAX}, {MIN, MIN}};
         for (int[] p : places) {
             CHECK.duePlace("no such place", () -> x.index(p[0], p[1]));
         }
-        ColourLessen y = reds(100, 100, 100, 100);
+        ColourLessen y = Pictures.reds(100, 100, 100, 100);
         y.given(0, 0, 0, 0, 0);
         y.given(1, 255, 0, 0, 0);
         y.run(2, 2, 0);
-        dueIndexes("nearest", y, 0, 0, 0, 0);
+        CHECK.dueIndexes("nearest", y, 0, 0, 0, 0);
         y.dither(1);
-        dueIndexes("by dither", y, 0, 1, 0, 0);
+        CHECK.dueIndexes("by dither", y, 0, 1, 0, 0);
     }
 
     private static void nearest() {
         CHECK.begin("promise 9, nearest");
-        ColourLessen x = reds(0, 10, 10);
+        ColourLessen x = Pictures.reds(0, 10, 10);
         CHECK.dueState("no palette", () -> x.nearest(0, 0, 0, 0));
         CHECK.dueState("no palette, the first of two", () -> x.nearest(-1, 0, 0, 0));
         x.run(0, 2, 0);
@@ -393,7 +363,7 @@ public final class PromisesTest {
 
     private static void sum() {
         CHECK.begin("promise 10, sum");
-        ColourLessen x = reds(0, 2, 3, 10);
+        ColourLessen x = Pictures.reds(0, 2, 3, 10);
         CHECK.dueState("no palette", () -> x.sum(0));
         CHECK.dueState("no palette, the first of two", () -> x.sum(-1));
         x.given(0, 2, 0, 0, 0);
@@ -431,24 +401,24 @@ public final class PromisesTest {
         x.given(0, 0, 0, 0, 0);
         x.given(1, 255, 0, 0, 0);
         x.run(2, 2, 0);
-        dueIndexes("nearest", x, 0, 0, 0, 1);
+        CHECK.dueIndexes("nearest", x, 0, 0, 0, 1);
         CHECK.due("forward", x.dither(1), 1);
-        dueIndexes("forward", x, 0, 1, 0, 1);
+        CHECK.dueIndexes("forward", x, 0, 1, 0, 1);
         CHECK.due("every second row backward", x.dither(2), 3);
-        dueIndexes("every second row backward", x, 0, 1, 1, 0);
+        CHECK.dueIndexes("every second row backward", x, 0, 1, 1, 0);
         for (int kind : new int[] {-1, 3, MIN, MAX}) {
             CHECK.dueArgument("no such kind", () -> x.dither(kind));
         }
-        dueIndexes("nothing is changed by what throws", x, 0, 1, 1, 0);
+        CHECK.dueIndexes("nothing is changed by what throws", x, 0, 1, 1, 0);
         CHECK.due("the nearest ones", x.dither(0), 0);
-        dueIndexes("the nearest ones", x, 0, 0, 0, 1);
+        CHECK.dueIndexes("the nearest ones", x, 0, 0, 0, 1);
 
-        ColourLessen y = reds(255, 255, 65);
+        ColourLessen y = Pictures.reds(255, 255, 65);
         y.given(0, 0, 0, 0, 0);
         y.given(1, 200, 0, 0, 0);
         y.run(2, 2, 0);
         CHECK.due("what goes on is not brought to 255", y.dither(1), 1);
-        dueIndexes("what goes on is not brought to 255", y, 1, 1, 1);
+        CHECK.dueIndexes("what goes on is not brought to 255", y, 1, 1, 1);
 
         ColourLessen z = new ColourLessen(2, 1);
         z.put(0, 0, 0, 255, 0, 0);
@@ -458,7 +428,7 @@ public final class PromisesTest {
         z.given(2, 200, 255, 0, 0);
         z.run(2, 3, 0);
         CHECK.due("what is looked for is brought to 0", z.dither(2), 0);
-        dueIndexes("what is looked for is brought to 0", z, 2, 1);
+        CHECK.dueIndexes("what is looked for is brought to 0", z, 2, 1);
         ditherHalves();
     }
 
@@ -473,24 +443,24 @@ public final class PromisesTest {
         x.put(0, 1, 18, 0, 0, 0);
         x.put(1, 1, 0, 0, 0, 200);
         x.run(2, 3, 0);
-        dueIndexes("before", x, 0, 1, 1, 2);
+        CHECK.dueIndexes("before", x, 0, 1, 1, 2);
         CHECK.due("halves", x.dither(1), 1);
-        dueIndexes("16 is above the middle, 15 takes the first", x, 0, 1, 0, 2);
+        CHECK.dueIndexes("16 is above the middle, 15 takes the first", x, 0, 1, 0, 2);
     }
 
     private static void count() {
         CHECK.begin("promise 12, count");
-        ColourLessen x = reds(100, 100, 100, 100);
+        ColourLessen x = Pictures.reds(100, 100, 100, 100);
         CHECK.dueState("no palette", () -> x.count(0));
         CHECK.dueState("no palette, the first of two", () -> x.count(-1));
         x.given(0, 0, 0, 0, 0);
         x.given(1, 255, 0, 0, 0);
         x.run(2, 2, 0);
-        dueCounts("nearest", x, 4, 0);
+        CHECK.dueCounts("nearest", x, 4, 0);
         x.dither(1);
-        dueCounts("by dither", x, 3, 1);
+        CHECK.dueCounts("by dither", x, 3, 1);
         x.dither(0);
-        dueCounts("nearest again", x, 4, 0);
+        CHECK.dueCounts("nearest again", x, 4, 0);
         for (int k : new int[] {-1, 2, 64, MIN, MAX}) {
             CHECK.duePlace("no such colour", () -> x.count(k));
         }
@@ -498,7 +468,7 @@ public final class PromisesTest {
 
     private static void exact() {
         CHECK.begin("promise 13, exact");
-        ColourLessen x = reds(0, 100, 255);
+        ColourLessen x = Pictures.reds(0, 100, 255);
         CHECK.dueState("no palette", () -> x.exact() ? 1 : 0);
         x.run(0, 3, 0);
         CHECK.due("all colours", x.exact(), true);
@@ -508,7 +478,7 @@ public final class PromisesTest {
         x.run(1, 3, 5);
         x.dither(2);
         CHECK.due("by dither", x.exact(), true);
-        ColourLessen y = reds(0, 0, 0, 1);
+        ColourLessen y = Pictures.reds(0, 0, 0, 1);
         y.given(0, 0, 0, 0, 0);
         y.run(2, 1, 0);
         CHECK.due("the last one alone is another", y.exact(), false);
@@ -522,7 +492,7 @@ public final class PromisesTest {
     }
 
     private static void ditherMakesInexact() {
-        ColourLessen y = reds(105, 0);
+        ColourLessen y = Pictures.reds(105, 0);
         y.given(0, 0, 0, 0, 0);
         y.given(1, 3, 0, 0, 0);
         y.run(2, 2, 0);
@@ -583,26 +553,26 @@ public final class PromisesTest {
     }
 
     public static void main(String[] args) {
-        newObject();
-        put();
-        paint();
-        at();
-        runWrong();
-        runBoxes();
-        runJoining();
-        runJoiningCosts();
-        runGiven();
-        runOrder();
-        given();
-        colour();
-        index();
-        nearest();
-        sum();
-        dither();
-        count();
-        exact();
-        told();
-        clear();
+        CHECK.run(PromisesTest::newObject);
+        CHECK.run(PromisesTest::put);
+        CHECK.run(PromisesTest::paint);
+        CHECK.run(PromisesTest::at);
+        CHECK.run(PromisesTest::runWrong);
+        CHECK.run(PromisesTest::runBoxes);
+        CHECK.run(PromisesTest::runJoining);
+        CHECK.run(PromisesTest::runJoiningCosts);
+        CHECK.run(PromisesTest::runGiven);
+        CHECK.run(PromisesTest::runOrder);
+        CHECK.run(PromisesTest::given);
+        CHECK.run(PromisesTest::colour);
+        CHECK.run(PromisesTest::index);
+        CHECK.run(PromisesTest::nearest);
+        CHECK.run(PromisesTest::sum);
+        CHECK.run(PromisesTest::dither);
+        CHECK.run(PromisesTest::count);
+        CHECK.run(PromisesTest::exact);
+        CHECK.run(PromisesTest::told);
+        CHECK.run(PromisesTest::clear);
         CHECK.end();
     }
 }

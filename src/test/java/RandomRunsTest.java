@@ -36,18 +36,10 @@ public final class RandomRunsTest {
         return random.nextInt(150) == 0 ? EDGES[random.nextInt(EDGES.length)] : level;
     }
 
-    private static String answerOf(Check.Call call) {
-        try {
-            return Long.toString(call.answer());
-        } catch (RuntimeException e) {
-            return e.getClass().getName();
-        }
-    }
-
     private boolean same(String text, Check.Call got, Check.Call want) {
         call = text;
-        String g = answerOf(got);
-        String w = answerOf(want);
+        String g = Check.answerOf(got);
+        String w = Check.answerOf(want);
         if (!g.equals(w)) {
             System.out.println(text + " answered " + g + ", due is " + w);
         }
