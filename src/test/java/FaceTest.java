@@ -9,22 +9,22 @@ import java.util.TreeSet;
 /** The public face is the document's, and nothing else of the class can be seen from outside. */
 public final class FaceTest {
     private static final Set<String> FACE = new TreeSet<>(Arrays.asList(
-            "int NONE",
-            "ColourLessen(int, int)",
-            "boolean put(int, int, int, int, int, int) IndexOutOfBoundsException IllegalArgumentException",
-            "int paint(int, int, int, int, int) IndexOutOfBoundsException IllegalArgumentException",
-            "int at(int, int) IndexOutOfBoundsException",
-            "int run(int, int, int) IllegalArgumentException",
-            "int given(int, int, int, int, int) IndexOutOfBoundsException IllegalArgumentException",
-            "int colour(int, int) IllegalStateException IndexOutOfBoundsException",
-            "int index(int, int) IllegalStateException IndexOutOfBoundsException",
-            "int nearest(int, int, int, int) IllegalStateException IllegalArgumentException",
-            "long sum(int) IllegalStateException IndexOutOfBoundsException",
-            "int dither(int) IllegalStateException IllegalArgumentException",
-            "int count(int) IllegalStateException IndexOutOfBoundsException",
-            "boolean exact() IllegalStateException",
-            "int told(int)",
-            "void clear()"));
+            "public static final int NONE",
+            "public ColourLessen(int, int)",
+            "public boolean put(int, int, int, int, int, int) IndexOutOfBoundsException IllegalArgumentException",
+            "public int paint(int, int, int, int, int) IndexOutOfBoundsException IllegalArgumentException",
+            "public int at(int, int) IndexOutOfBoundsException",
+            "public int run(int, int, int) IllegalArgumentException",
+            "public int given(int, int, int, int, int) IndexOutOfBoundsException IllegalArgumentException",
+            "public int colour(int, int) IllegalStateException IndexOutOfBoundsException",
+            "public int index(int, int) IllegalStateException IndexOutOfBoundsException",
+            "public int nearest(int, int, int, int) IllegalStateException IllegalArgumentException",
+            "public long sum(int) IllegalStateException IndexOutOfBoundsException",
+            "public int dither(int) IllegalStateException IllegalArgumentException",
+            "public int count(int) IllegalStateException IndexOutOfBoundsException",
+            "public boolean exact() IllegalStateException",
+            "public int told(int)",
+            "public void clear()"));
 
     private static String list(Class<?>[] types) {
         StringBuilder s = new StringBuilder("(");
@@ -46,18 +46,19 @@ public final class FaceTest {
         Set<String> found = new TreeSet<>();
         for (Field f : type.getDeclaredFields()) {
             if (!Modifier.isPrivate(f.getModifiers()) && !f.isSynthetic()) {
-                found.add(f.getType().getSimpleName() + " " + f.getName());
+                found.add(Modifier.toString(f.getModifiers()) + " " + f.getType().getSimpleName() + " " + f.getName());
             }
         }
         for (Constructor<?> c : type.getDeclaredConstructors()) {
             if (!Modifier.isPrivate(c.getModifiers()) && !c.isSynthetic()) {
-                found.add(type.getSimpleName() + list(c.getParameterTypes()) + thrown(c.getExceptionTypes()));
+                found.add(Modifier.toString(c.getModifiers()) + " " + type.getSimpleName()
+                        + list(c.getParameterTypes()) + thrown(c.getExceptionTypes()));
             }
         }
         for (Method m : type.getDeclaredMethods()) {
             if (!Modifier.isPrivate(m.getModifiers()) && !m.isSynthetic()) {
-                found.add(m.getReturnType().getSimpleName() + " " + m.getName() + list(m.getParameterTypes())
-                        + thrown(m.getExceptionTypes()));
+                found.add(Modifier.toString(m.getModifiers()) + " " + m.getReturnType().getSimpleName() + " "
+                        + m.getName() + list(m.getParameterTypes()) + thrown(m.getExceptionTypes()));
             }
         }
         return found;
@@ -78,7 +79,7 @@ public final class FaceTest {
 
     public static void main(String[] args) {
         Class<?> type = ColourLessen.class;
-        boolean right = found(type).equals(FACE) && !hidesName(type)
+        boolean right = found(type).equals(FACE) && !hidesName(type) && ColourLessen.NONE == -1
                 && Modifier.isPublic(type.getModifiers()) && Modifier.isFinal(type.getModifiers());
         for (Class<?> inside : type.getDeclaredClasses()) {
             right &= Modifier.isStatic(inside.getModifiers()) && !Modifier.isPublic(inside.getModifiers());
